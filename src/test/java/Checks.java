@@ -12,7 +12,8 @@ final class Checks {
         checked++;
         if (got != want) {
             wrong++;
-            System.out.println(name + ": " + what + " answered " + got + ", due is " + want);
+            String told = what.length() > 900 ? "(..)" + what.substring(what.length() - 900) : what;
+            System.out.println(name + ": " + told + " answered " + got + ", due is " + want);
         }
     }
 

@@ -143,6 +143,9 @@ public final class FactsTest {
         CHECKS.same("slots", office.count(7), 2);
         CHECKS.same("hold(2)", office.hold(2), true);
         CHECKS.same("slots", office.count(7), 3);
+        office.flood(9, 2);
+        CHECKS.same("restore(2)", office.restore(2), true);
+        CHECKS.same("facts", office.count(5), 2);
     }
 
     public static void main(String[] args) {

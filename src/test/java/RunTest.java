@@ -73,6 +73,39 @@ public final class RunTest {
         fit.early(5, 0);
         CHECKS.same("harm of what could be opened", fit.harm(1), 0);
         run(fit, 0, 1, 1, 2, 5, 0);
+        AfterOffice odd = CHECKS.office("person w 1; letter a w w 0 0 9 if year==5; letter b w w 0 0 20 if dead w;");
+        odd.early(6, 0);
+        CHECKS.same("harm of what a yearly look opened ahead", odd.harm(1), 0);
+        odd.early(59, 1);
+        CHECKS.same("harm in the last year", odd.harm(2), 20);
+    }
+
+    private static void theLastYear() {
+        AfterOffice office = CHECKS.office("person w 1; letter a w w 0 0 0 if year==59; good=year;");
+        run(office, 0, 0, 1, 1, 59, 0);
+        run(office, 0, 0, 2, 0, -2, 0);
+        CHECKS.same("late in the last year", office.late(0, 0, 1), 0);
+        CHECKS.same("gain in the last year", office.gain(0, 1), 59);
+        CHECKS.same("watch of the last year", office.watch(0, 59), 1);
+        CHECKS.same("next of the last year", office.next(58, 0), 59);
+        CHECKS.same("opened in the last year", office.opened(59, 0, 0), 0);
+        CHECKS.same("income of the last year", office.income(0, 59, 59), 1);
+        CHECKS.same("looks with the last year", office.looks(0, 1), 59);
+    }
+
+    private static void tenAtOnce() {
+        StringBuilder text = new StringBuilder("person w 1;");
+        for (char name = 'a'; name < 'k'; name++) {
+            text.append("letter ").append(name).append(" w w 0 0 0");
+            text.append(name < 'j' ? " if read " + (char) (name + 1) : "").append(';');
+        }
+        AfterOffice office = CHECKS.office(text.toString());
+        for (int i = 0; i < 10; i++) {
+            CHECKS.same("opened(0, 0, " + i + ") of ten", office.opened(0, 0, i), 9 - i);
+        }
+        CHECKS.none("opened(0, 0, 10) of ten", office.opened(0, 0, 10));
+        CHECKS.same("rings() of a chain of ten", office.rings(), 0);
+        CHECKS.same("burn() of a chain of ten", office.burn(), 0);
     }
 
     private static void datesAndFloods() {
@@ -199,6 +232,10 @@ public final class RunTest {
         CHECKS.same("the death came behind in its year", back.tooSoon(3), 1);
         back.death(5, 0);
         CHECKS.same("the death came ahead", back.tooSoon(4), 0);
+        AfterOffice last = CHECKS.office("person w 1; person r 1; letter a w r 0 99 7 if dead w and year==59;");
+        last.rumour(5, 0, 10);
+        last.death(59, 0);
+        CHECKS.same("by truth in the last year", last.tooSoon(2), 0);
     }
 
     private static void wrongs() {
@@ -330,6 +367,11 @@ public final class RunTest {
         CHECKS.same("looks(1, 0)", office.looks(1, 0), 0);
         CHECKS.same("looks(1, 1)", office.looks(1, 1), 5);
         CHECKS.same("looks(1, 2)", office.looks(1, 2), 20);
+        AfterOffice rumours = CHECKS.office("person w 1; person r 1; letter a w r 0 99 7 if dead w; good=20-late;");
+        rumours.death(4, 0);
+        rumours.rumour(6, 0, 10);
+        CHECKS.same("looks by rumours, not by truth", rumours.looks(2, 1), 6);
+        CHECKS.same("their sum", rumours.looks(2, 2), 20);
         CHECKS.none("looks(2, 0)", office.looks(2, 0));
         CHECKS.none("looks(-1, 0)", office.looks(-1, 0));
         CHECKS.none("looks(0, 3)", office.looks(0, 3));
@@ -340,6 +382,8 @@ public final class RunTest {
         rumoursMakeDead();
         takenBackByNumbers();
         openedByHand();
+        theLastYear();
+        tenAtOnce();
         datesAndFloods();
         feesAndLapses();
         orderOfOpening();

@@ -192,6 +192,27 @@ public final class TextTest {
         at(2, times(98, "fee=1;") + "fee=1+(1+1|);");
     }
 
+    /* Each token of a text is once the 401st: room behind tells that fill it up, syntax if it does not fit. */
+    private static void everyTokenTooMany() {
+        String text = "person a 1;clerk c;barred c a;letter l a a 0 1 2 if not dead a and read l or(1+2)*year<=3-4/5;"
+                + "letter m a a 3 4 5;proof 7;dies=age;fee=shelf;good=late+(2);";
+        int tokens = 0;
+        for (int i = 0; i < text.length(); i++) {
+            boolean letters = Character.isLetter(text.charAt(i)) && i > 0 && Character.isLetter(text.charAt(i - 1));
+            boolean second = text.charAt(i) == '=' && text.charAt(i - 1) == '<';
+            if (text.charAt(i) == ' ' || letters || second) {
+                continue;
+            }
+            int filling = 400 - tokens;
+            int threes = (4 - filling % 4) % 4;
+            String ahead = times(threes, "proof 5;") + times((filling - threes * 3) / 4, "fee=1;");
+            fault(ahead + text, 2, ahead.length() + i);
+            fault(ahead + text.substring(0, i) + " ?", 1, ahead.length() + i + 1);
+            tokens++;
+        }
+        CHECKS.same("tokens of the text", tokens, 67);
+    }
+
     private static void twice() {
         at(3, PERSON + "person |a 2;");
         at(3, PERSON + "clerk |a;");
@@ -240,6 +261,8 @@ public final class TextTest {
         at(5, "proof |100;");
         at(5, "proof |0; proof 5;");
         at(5, "proof 5; proof |100;");
+        at(1, "proof 0; |x");
+        at(1, "proof 100; person a 100; letter l b c 9 1000 100 if dead x; |x");
         at(1, "person a 100; barred x y; |x");
         at(2, "person a 100; fee=((((((|(1)))))));");
         good("fee=9999;dies=9999;good=9999;");
@@ -281,6 +304,7 @@ public final class TextTest {
         tokens();
         syntax();
         room();
+        everyTokenTooMany();
         twice();
         names();
         wrongs();

@@ -121,6 +121,13 @@ public final class WaysTest {
         }
         CHECKS.none("future what 3", office.future(0, 0, 0, 0, 3));
         CHECKS.none("future what -1", office.future(0, 0, 0, 0, -1));
+        // The same are dead by two ways, of which one has let l be read.
+        AfterOffice ways = CHECKS.office("person a 1; person b 1; person c 1; letter l a c 0 0 0 if dead a and not dead b;"
+                + "letter m a c 0 0 0 if dead a and dead b and read l;"
+                + "letter n a c 0 0 0 if dead a and dead b and not read l;");
+        future(ways, new int[] {1, 0, 0, 0}, 1, 59, 0);
+        future(ways, new int[] {2, 0, 0, 0}, 1, 59, 0);
+        future(ways, new int[] {2, 59, 0, 0}, -2, -2, 0);
         String five = "person a 1; person b 1; person c 1; person d 1; person e 1; letter l a a 0 0 0 if dead e;";
         future(CHECKS.office(five), new int[] {0, 0, 0, 0}, 0, 59, 0);
         AfterOffice six = CHECKS.office("person f 1;" + five);
