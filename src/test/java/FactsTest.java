@@ -122,6 +122,7 @@ public final class FactsTest {
         office.rumour(1, 0, 7);
         office.annul(0);
         CHECKS.same("hold(0)", office.hold(0), true);
+        many();
         CHECKS.same("slots", office.count(7), 2);
         office.rumour(2, 0, 9);
         CHECKS.same("restore(2)", office.restore(2), false);
@@ -146,6 +147,25 @@ public final class FactsTest {
         office.flood(9, 2);
         CHECKS.same("restore(2)", office.restore(2), true);
         CHECKS.same("facts", office.count(5), 2);
+    }
+
+    private static void many() {
+        AfterOffice office = CHECKS.office(TEXT);
+        office.rumour(1, 1, 2);
+        office.date(3, 0, 4);
+        office.flood(5, 3);
+        office.early(6, 1);
+        office.hold(1);
+        CHECKS.same("restore of nothing held", office.restore(0), false);
+        CHECKS.same("hold(0) of four", office.hold(0), true);
+        Checks.read(office, "fault");
+        office.annul(0);
+        CHECKS.same("restore(1) of four", office.restore(1), true);
+        fact(office, 0, 0, 1, 1, 2);
+        fact(office, 1, 4, 3, 0, 4);
+        fact(office, 2, 5, 5, 3, -1);
+        fact(office, 3, 3, 6, 1, -1);
+        CHECKS.same("facts", office.count(5), 4);
     }
 
     public static void main(String[] args) {

@@ -91,6 +91,8 @@ public final class RunTest {
         CHECKS.same("opened in the last year", office.opened(59, 0, 0), 0);
         CHECKS.same("income of the last year", office.income(0, 59, 59), 1);
         CHECKS.same("looks with the last year", office.looks(0, 1), 59);
+        AfterOffice late = CHECKS.office("person w 1; letter a w w 0 0 0 if year==59; good=10+late;");
+        CHECKS.same("gain by looks with the last year", late.looks(0, 2), 10);
     }
 
     private static void tenAtOnce() {

@@ -182,6 +182,10 @@ public final class WaysTest {
         CHECKS.same("odds of a barred year", clerks.odds(0, 0, 1), 0);
         CHECKS.same("odds behind a barred year", clerks.odds(0, 0, 2), 81000000);
         CHECKS.same("odds of a free year", clerks.odds(0, 1, 1), 9000);
+        AfterOffice frail = CHECKS.office("person a 1; letter l a a 0 0 0; letter m a a 0 0 0 if 1<=year; dies=99;");
+        CHECKS.same("odds of one way of 100", frail.odds(0, 0, 1), 1);
+        CHECKS.same("odds of one way of 100, then any", frail.odds(0, 0, 2), 100);
+        CHECKS.same("odds of one way of 10000", frail.odds(1, 0, 2), 1);
         AfterOffice never = CHECKS.office("person a 1; person b 1; person c 1; person d 1; letter l a b 0 0 0;");
         CHECKS.same("odds of four who never die", never.odds(0, 0, 2), 10000000000000000L);
         AfterOffice five = CHECKS.office("person a 1; person b 1; person c 1; person d 1; person e 1; letter l a b 0 0 0;");
