@@ -11,6 +11,7 @@ public final class AfterOffice {
     private static final int RAREST_LOOK = 20;
 
     private static final int MOST_BYTES = 2000;
+    private static final int FEED_BYTES = 20;
     private static final int MOST_TOKENS = 400;
     private static final int MOST_PEOPLE = 10;
     private static final int MOST_CLERKS = 4;
@@ -521,7 +522,7 @@ public final class AfterOffice {
         int size;
 
         boolean hasRoom() {
-            return size + 20 <= MOST_BYTES;
+            return size + FEED_BYTES <= MOST_BYTES;
         }
 
         void add(int four) {
@@ -1017,6 +1018,9 @@ public final class AfterOffice {
 
         private void settleRead(Letter letter, int j) {
             int token = book.code[j] >> OPERAND_SHIFT;
+            if (!within(token, 0, MOST_TOKENS)) {
+                return;
+            }
             int found = find(letterNames, book.letterCount, tokens.values[token]);
             if (found < 0) {
                 mark(NO_NAME, token);
@@ -1140,11 +1144,13 @@ public final class AfterOffice {
         }
 
         int diesOf(int person, int year) {
-            return dying[person * YEARS + year];
+            int at = person * YEARS + year;
+            return at >= 0 && at < dying.length ? dying[at] : 0;
         }
 
         int feeOf(int shelf, int year) {
-            return fees[shelf * YEARS + year];
+            int at = shelf * YEARS + year;
+            return at >= 0 && at < fees.length ? fees[at] : 0;
         }
 
         int gainIn(int year, int shelf, int late) {
@@ -1278,8 +1284,9 @@ public final class AfterOffice {
             return bits;
         }
 
+        /* A void, which is of no year, is none of the facts that are known. */
         private boolean counts(int i, long annulled) {
-            return kinds[i] != VOID && (annulled >> i & 1) == 0;
+            return within(years[i], 0, YEARS - 1) && (annulled >> i & 1) == 0;
         }
 
         /* Sorts what is known by years, in each by numbers; the last are laid first, each ahead of its year's. */
@@ -1400,6 +1407,9 @@ public final class AfterOffice {
 
         private void takeFact(int number, int year) {
             int who = facts.whom[number];
+            if (who < 0 || who >= MOST_LETTERS || who >= MOST_PEOPLE) {
+                return;
+            }
             switch (facts.kinds[number]) {
                 case RUMOUR:
                     weights[who] += facts.much[number];
