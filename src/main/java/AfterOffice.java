@@ -112,6 +112,7 @@ public final class AfterOffice {
 
     // Where the masks of 0, 1, 2 and 3 bits begin among those of at most 3 of 10 bits.
     private static final int[] FEW_STARTS = {0, 1, 11, 56, 176};
+    private static final int FEW_MASKS = 176;
 
     private final Tape tape;
     private final Tokens tokens;
@@ -1734,7 +1735,7 @@ public final class AfterOffice {
     private static final class Ways {
         final Book book;
         final Reckoner reckoner;
-        final int[] few = new int[FEW_STARTS[MOST_NEEDED + 1]];
+        final int[] few = new int[FEW_MASKS];
         final long[] reach = new long[1 << FUTURE_PEOPLE];
         int neededDead;
         int neededRead;
