@@ -1637,7 +1637,7 @@ public final class AfterOffice {
             other.walk(1, YEARS - 1, true);
             int bits = 0;
             for (int i = 0; i < book.letterCount; i++) {
-                boolean asSoon = other.hasBeenOpened(i) && other.ends[i] <= yearly.ends[i];
+                boolean asSoon = other.states[i] == OPENED && other.ends[i] <= yearly.ends[i];
                 if (yearly.states[i] == OPENED && !asSoon) {
                     bits |= 1 << i;
                 }
@@ -1651,18 +1651,16 @@ public final class AfterOffice {
             other.walk(k, YEARS - 1, false);
         }
 
-        /* Only of letters that both runs open. */
-        private int yearsLate(int letter) {
-            boolean early = yearly.states[letter] == OPENED_EARLY || other.states[letter] == OPENED_EARLY;
-            return early ? 0 : other.ends[letter] - yearly.ends[letter];
-        }
-
-        private boolean bothOpen(int letter) {
-            return yearly.hasBeenOpened(letter) && other.hasBeenOpened(letter);
-        }
-
+        /* What a look opens in one run and a hand in the other is opened with both in neither way. */
         int lateOf(int letter) {
-            return bothOpen(letter) ? yearsLate(letter) : NOT_SO;
+            if (bothHave(OPENED, letter)) {
+                return other.ends[letter] - yearly.ends[letter];
+            }
+            return bothHave(OPENED_EARLY, letter) ? 0 : NOT_SO;
+        }
+
+        private boolean bothHave(int state, int letter) {
+            return yearly.states[letter] == state && other.states[letter] == state;
         }
 
         int rarestLook(int n, int l) {
@@ -1679,7 +1677,8 @@ public final class AfterOffice {
 
         private boolean allInTime(int l) {
             for (int i = 0; i < book.letterCount; i++) {
-                if (yearly.states[i] == OPENED && !(bothOpen(i) && yearsLate(i) <= l)) {
+                boolean inTime = bothHave(OPENED, i) && lateOf(i) <= l;
+                if (yearly.states[i] == OPENED && !inTime) {
                     return false;
                 }
             }
@@ -1691,8 +1690,7 @@ public final class AfterOffice {
             int sum = 0;
             for (int i = rank; i < other.orderSize; i++) {
                 int letter = other.order[i];
-                int late = yearly.hasBeenOpened(letter) ? yearsLate(letter) : NOT_SO;
-                sum += reckoner.gainIn(other.ends[letter], book.letters[letter].onShelf, late);
+                sum += reckoner.gainIn(other.ends[letter], book.letters[letter].onShelf, lateOf(letter));
             }
             return sum;
         }

@@ -746,13 +746,12 @@ final class Oracle {
         return bits;
     }
 
-    /** Null: it is not opened in both. */
+    /** Null: it is neither opened by looks in both nor by hand in both. */
     Integer late(Mailbox yearly, Mailbox other) {
-        boolean both = (yearly.state == 1 || yearly.state == 2) && (other.state == 1 || other.state == 2);
-        if (!both) {
-            return null;
+        if (yearly.state == 2 && other.state == 2) {
+            return 0;
         }
-        return yearly.state == 2 || other.state == 2 ? 0 : other.when - yearly.when;
+        return yearly.state == 1 && other.state == 1 ? other.when - yearly.when : null;
     }
 
     int late(int letter, int n, int k) {

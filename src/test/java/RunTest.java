@@ -281,8 +281,11 @@ public final class RunTest {
         CHECKS.same("late by hand", office.late(1, 1, 20), 0);
         CHECKS.same("watch without what is opened by hand", office.watch(1, 0), 7);
         office.early(9, 0);
-        CHECKS.same("late by hand only there", office.late(0, 2, 10), 0);
-        CHECKS.same("watch with what is opened by hand there", office.watch(2, 0), 20);
+        CHECKS.same("by a look here and by hand there", office.late(0, 2, 10), -2);
+        CHECKS.same("late by looks ahead of the hand", office.late(0, 2, 8), 1);
+        CHECKS.same("watch ahead of the hand", office.watch(2, 0), 7);
+        CHECKS.same("watch ahead of the hand, one late", office.watch(2, 1), 8);
+        CHECKS.same("what is opened by hand there is not in time", office.watch(2, 59), 8);
         CHECKS.none("late(3, 0, 1)", office.late(3, 0, 1));
         CHECKS.none("late(-1, 0, 1)", office.late(-1, 0, 1));
         CHECKS.none("late(0, 3, 1)", office.late(0, 3, 1));
@@ -304,6 +307,33 @@ public final class RunTest {
         CHECKS.same("gain each year", office.gain(0, 1), 200);
         CHECKS.same("gain each 4 years", office.gain(0, 4), 84);
         CHECKS.same("gain each 3 years", office.gain(0, 3), 100);
+    }
+
+    private static void soonerByTwo() {
+        AfterOffice office = CHECKS.office("person w 1; letter a w w 0 0 0 if not read b and year==4 or year==6;"
+                + "letter b w w 0 0 0 if 3<=year; good=100+late;");
+        CHECKS.same("opened two years sooner", office.late(0, 0, 4), -2);
+        CHECKS.same("one late", office.late(1, 0, 4), 1);
+        CHECKS.same("two years sooner is in time", office.watch(0, 1), 4);
+        CHECKS.same("gain of both", office.gain(0, 4), 199);
+    }
+
+    private static void yearlyByHand() {
+        String text = "person p 1; letter a p p 0 0 0 if year==1; letter b p p 0 0 0 if not read a and 3<=year;";
+        AfterOffice office = CHECKS.office(text + "good=5+late;");
+        office.early(10, 1);
+        CHECKS.same("by hand here", office.run(1, 1, 1, 0), 2);
+        CHECKS.same("by a look there", office.run(1, 1, 2, 0), 1);
+        CHECKS.same("late by hand here and by a look there", office.late(1, 1, 2), -2);
+        CHECKS.same("late by hand in both", office.late(1, 1, 11), 0);
+        CHECKS.same("gain of what the yearly run opens by hand", office.gain(1, 2), 3);
+        CHECKS.same("none by hand with both", office.gain(1, 11), 0);
+        CHECKS.same("what is opened by hand here needs no look", office.watch(1, 0), 1);
+        AfterOffice better = CHECKS.office(text + "good=5-late;");
+        better.early(10, 1);
+        CHECKS.same("first look", better.looks(1, 0), 0);
+        CHECKS.same("second look, for what the yearly run opens by hand", better.looks(1, 1), 3);
+        CHECKS.same("its gain", better.looks(1, 2), 7);
     }
 
     private static void gains() {
@@ -394,6 +424,8 @@ public final class RunTest {
         wrongs();
         lateAndWatch();
         sooner();
+        soonerByTwo();
+        yearlyByHand();
         gains();
         nexts();
         looks();
