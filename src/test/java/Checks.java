@@ -1,6 +1,7 @@
 /** Counts wrong answers and says them; feeds texts of any length. */
 final class Checks {
     private final String name;
+    private String sentence = "";
     private int checked;
     private int wrong;
 
@@ -8,17 +9,36 @@ final class Checks {
         this.name = name;
     }
 
+    /** What is looked at from now on stands in these words of the document. */
+    void sentence(String words) {
+        sentence = words;
+    }
+
     void same(String what, long got, long want) {
         checked++;
         if (got != want) {
-            wrong++;
-            String told = what.length() > 900 ? "(..)" + what.substring(what.length() - 900) : what;
-            System.out.println(name + ": " + told + " answered " + got + ", due is " + want);
+            tell(what + " answered " + got + ", due is " + want);
         }
     }
 
     void same(String what, boolean got, boolean want) {
         same(what, got ? 1 : 0, want ? 1 : 0);
+    }
+
+    void same(String what, String got, String want) {
+        checked++;
+        if (!got.equals(want)) {
+            tell(what + "\n  is  " + got + "\n  due " + want);
+        }
+    }
+
+    private void tell(String fault) {
+        wrong++;
+        if (!sentence.isEmpty()) {
+            System.out.println(name + " on '" + sentence + "':");
+        }
+        String told = fault.length() > 1900 ? "(..)" + fault.substring(fault.length() - 1900) : fault;
+        System.out.println(name + ": " + told);
     }
 
     void none(String what, long got) {
@@ -30,6 +50,24 @@ final class Checks {
         if (wrong != 0) {
             System.exit(1);
         }
+    }
+
+    /** A new office finds this fault in a text, or none (0, at -1). */
+    void fault(String text, int number, int place) {
+        AfterOffice office = new AfterOffice();
+        same("read() of " + text, read(office, text), number);
+        same("place() of " + text, office.place(), place);
+        same("bytes left", office.count(6), 0);
+    }
+
+    void good(String text) {
+        fault(text, 0, -1);
+    }
+
+    /** The fault stands at the first sign behind the bar. */
+    void at(int number, String marked) {
+        int bar = marked.indexOf('|');
+        fault(marked.substring(0, bar) + marked.substring(bar + 1), number, bar);
     }
 
     /** Lays a text behind the tape; the filling of the last twenty goes back. */

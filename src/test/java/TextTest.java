@@ -5,20 +5,15 @@ public final class TextTest {
     private static final String LETTER = PERSON + "letter l a a 0 0 0";
 
     private static void fault(String text, int number, int place) {
-        AfterOffice office = new AfterOffice();
-        CHECKS.same("read() of " + text, Checks.read(office, text), number);
-        CHECKS.same("place() of " + text, office.place(), place);
-        CHECKS.same("bytes left", office.count(6), 0);
+        CHECKS.fault(text, number, place);
     }
 
     private static void good(String text) {
-        fault(text, 0, -1);
+        CHECKS.good(text);
     }
 
-    /* The fault stands at the first sign behind the bar. */
     private static void at(int number, String marked) {
-        int bar = marked.indexOf('|');
-        fault(marked.substring(0, bar) + marked.substring(bar + 1), number, bar);
+        CHECKS.at(number, marked);
     }
 
     private static void newObject() {
