@@ -355,6 +355,55 @@ public final class AskBoundsTest {
         CHECKS.same("but have been read", hand.looks(1, 1), 5);
     }
 
+    private static void withoutFacts() {
+        CHECKS.sentence("KNOWN by n: the first n of them");
+        Bounds none = new Bounds(CHECKS, Bounds.of(Bounds.USUAL_TEXT));
+        none.refuses("fact(0, 0)", office -> office.fact(0, 0));
+        none.refuses("annul(0)", office -> office.annul(0));
+        none.edges("weighs(0, 59, n)", 0, 0, 0, 0, (office, n) -> office.weighs(0, 59, n));
+        none.edges("run(0, n, 1, 1)", 0, -2, 0, -2, (office, n) -> office.run(0, n, 1, 1));
+        none.edges("why(0, 59, n)", 0, 2, 0, 2, (office, n) -> office.why(0, 59, n));
+        none.edges("harm(n)", 0, 0, 0, 0, AfterOffice::harm);
+        none.edges("tooSoon(n)", 0, 0, 0, 0, AfterOffice::tooSoon);
+        none.edges("wrong(59, n, 0)", 0, 0, 0, 0, (office, n) -> office.wrong(59, n, 0));
+        none.edges("late(0, n, 1)", 0, -2, 0, -2, (office, n) -> office.late(0, n, 1));
+        none.edges("watch(n, 0)", 0, 20, 0, 20, (office, n) -> office.watch(n, 0));
+        none.edges("gain(n, 1)", 0, 0, 0, 0, (office, n) -> office.gain(n, 1));
+        none.edges("income(n, 0, 59)", 0, 300, 0, 300, (office, n) -> office.income(n, 0, 59));
+        none.edges("next(0, n)", 0, -2, 0, -2, (office, n) -> office.next(0, n));
+        none.edges("looks(n, 1)", 0, 1, 0, 1, (office, n) -> office.looks(n, 1));
+        Bounds open = new Bounds(CHECKS, Bounds.of("person w 1;letter a w w 0 0 0;"));
+        open.edges("opened(0, n, 0)", 0, 0, 0, 0, (office, n) -> office.opened(0, n, 0));
+    }
+
+    private static void withoutLetters() {
+        CHECKS.sentence("are numbered each from 0 on as they stand");
+        Bounds none = new Bounds(CHECKS, Bounds.of("person a 1;person b 2;clerk c;barred c a;fee=5;good=5;dies=5;"));
+        none.refuses("letter(0, 0)", office -> office.letter(0, 0));
+        none.refuses("fee(0, 0)", office -> office.fee(0, 0));
+        none.refuses("takeBack(0, 0)", office -> office.takeBack(0, 0));
+        none.refuses("early(0, 0)", office -> office.early(0, 0));
+        none.refuses("date(0, 0, 0)", office -> office.date(0, 0, 0));
+        none.refuses("run(0, 0, 1, 0)", office -> office.run(0, 0, 1, 0));
+        none.refuses("opened(0, 0, 0)", office -> office.opened(0, 0, 0));
+        none.refuses("why(0, 0, 0)", office -> office.why(0, 0, 0));
+        none.refuses("late(0, 0, 1)", office -> office.late(0, 0, 1));
+        none.refuses("need(0, 0, 0, 0, 0)", office -> office.need(0, 0, 0, 0, 0));
+        none.refuses("future(0, 0, 0, 0, 0)", office -> office.future(0, 0, 0, 0, 0));
+        none.refuses("odds(0, 0, 1)", office -> office.odds(0, 0, 1));
+        none.refuses("chance(0, 0, 1, 0)", office -> office.chance(0, 0, 1, 0));
+        none.answers("rumour(59, 1, 20)", 0, office -> office.rumour(59, 1, 20));
+        none.answers("flood(59, 3)", 0, office -> office.flood(59, 3));
+        none.answers("watch(0, 0)", 20, office -> office.watch(0, 0));
+        none.answers("gain(0, 1)", 0, office -> office.gain(0, 1));
+        none.answers("income(0, 0, 59)", 0, office -> office.income(0, 0, 59));
+        none.answers("next(0, 0)", -2, office -> office.next(0, 0));
+        none.answers("looks(0, 0)", 0, office -> office.looks(0, 0));
+        none.answers("looks(0, 1)", 1, office -> office.looks(0, 1));
+        none.answers("looks(0, 2)", 0, office -> office.looks(0, 2));
+        none.answers("dies(1, 59)", 5, office -> office.dies(1, 59));
+    }
+
     public static void main(String[] args) {
         runs();
         opened();
@@ -374,6 +423,8 @@ public final class AskBoundsTest {
         twoLooks();
         theFirstOfAlikeLooks();
         betweenTwoLooks();
+        withoutFacts();
+        withoutLetters();
         CHECKS.end();
     }
 }
