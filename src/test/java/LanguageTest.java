@@ -57,6 +57,25 @@ public final class LanguageTest {
         }
     }
 
+    /* Names of arguments too, in their order: the document's own lines. */
+    private static void faceOfTheDocument(String document, String source) {
+        Matcher block = Pattern.compile("(?s)## The public face\\s+```java\n(.*?)```").matcher(document);
+        CHECKS.same("a public face in the document", block.find(), true);
+        Set<String> due = publicLines(block.group(1));
+        CHECKS.same("lines of the face, those missing or beyond: " + difference(due, publicLines(source)),
+                due.equals(publicLines(source)), true);
+        CHECKS.same("a class, a constant, a constructor and the methods", due.size(), 3 + 43);
+    }
+
+    private static Set<String> publicLines(String text) {
+        Set<String> lines = new TreeSet<>();
+        Matcher matcher = Pattern.compile("(?m)^ *(public .*?) ?[;{]$").matcher(text);
+        while (matcher.find()) {
+            lines.add(matcher.group(1));
+        }
+        return lines;
+    }
+
     private static String described(Method method) {
         List<String> types = new ArrayList<>();
         for (Class<?> type : method.getParameterTypes()) {
@@ -185,8 +204,10 @@ public final class LanguageTest {
     }
 
     public static void main(String[] args) throws IOException, IllegalAccessException {
-        String source = Files.readString(Path.of(args.length > 0 ? args[0] : ".", "src/main/java/AfterOffice.java"));
+        Path root = Path.of(args.length > 0 ? args[0] : ".");
+        String source = Files.readString(root.resolve("src/main/java/AfterOffice.java"));
         face();
+        faceOfTheDocument(Files.readString(root.resolve("../shared/DOC.md")), source);
         classesAndFields();
         words(source);
         methodLengths(source);
